@@ -52,31 +52,19 @@ public final class PromisesTest {
     }
 
     private static BuoyReader of(int... heaves) {
-        BuoyReader x = new BuoyReader();
-        for (int v : heaves) {
-            x.heave(v);
-        }
-        return x;
+        return Records.of(heaves);
     }
 
-    /** Waves of heights 14, 5, 30, 5, 14, each of two samples, behind a first low sample. */
     private static BuoyReader five() {
-        return of(-1, 7, -7, 3, -2, 20, -10, 1, -4, 9, -5, 1);
+        return Records.five();
     }
 
-    /** As many waves as there are heights: a high sample, as high as told, and one of -1. */
     private static BuoyReader heights(int... heights) {
-        BuoyReader x = of(-1);
-        for (int h : heights) {
-            x.heave(h - 1);
-            x.heave(-1);
-        }
-        x.heave(1);
-        return x;
+        return Records.heights(heights);
     }
 
     private static long pack(int a, int b, int c, int d) {
-        return (a & 0xFFFFL) << 48 | (b & 0xFFFFL) << 32 | (c & 0xFFFFL) << 16 | d & 0xFFFFL;
+        return Records.pack(a, b, c, d);
     }
 
     private static void newObject() {
@@ -106,7 +94,8 @@ public final class PromisesTest {
             is("2: heave(" + v + ")", x.heave(v), NONE);
         }
         is("2: none came", x.count(0), 3);
-        for (int i = 4; i <= 600; i++) {
+        Records.come(x, Records.row(592, 1));
+        for (int i = 596; i <= 600; i++) {
             is("2: heave", x.heave(i), i);
         }
         is("2: heave beyond 600", x.heave(0), NONE);
