@@ -991,6 +991,10 @@ public final class CallEdgesTest {
         BuoyReader onTheBand = of(-10, 3, 7, -3, 6, -10, 9);
         onTheBand.set(1, 5);
         is("by 3 the 3 is not above, so that the 7 would be one", onTheBand.gone(0), 7);
+        BuoyReader behindALowOne = of(-20, 5, 9, -3, 4, -10, -3, 6, -20, 9);
+        behindALowOne.set(1, 6);
+        is("from the 9 to the last -20", behindALowOne.wave(0, 0) * 10 + behindALowOne.wave(0, 1), 27);
+        is("by 3 the last -3 is not below, but the -10 is", behindALowOne.gone(0), 9);
     }
 
     /** What was asked ahead of a change is answered anew behind it. */

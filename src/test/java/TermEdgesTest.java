@@ -14,6 +14,8 @@ public final class TermEdgesTest {
     private TermEdgesTest() { }
 
     public static void main(String[] args) {
+        calls();
+        constants();
         record();
         stretches();
         lenses();
@@ -54,6 +56,28 @@ public final class TermEdgesTest {
         for (int i = 0; i < due.length; i++) {
             is(what + ", sample " + i, x.sample(i, 2), due[i]);
         }
+    }
+
+    private static void calls() {
+        on("An object is used for at most 512 calls after it has been made");
+        BuoyReader x = new BuoyReader();
+        for (int i = 1; i <= 510; i++) {
+            is("call " + i, x.heave(i % 2 == 0 ? 1 : -1), i);
+        }
+        is("the 511th call", x.count(2), 254);
+        is("the 512th call", x.wave(253, 0), 507);
+        BuoyReader asked = Records.five();
+        for (int i = 4; i <= 511; i++) {
+            asked.quiet(i % 5);
+        }
+        is("the 512th call behind questions", asked.quiet(1), 2);
+    }
+
+    private static void constants() {
+        on("`NONE = -1`: There is none.");
+        is("NONE", BuoyReader.NONE, -1);
+        on("`GAP = -32768`: What no HEAVE is.");
+        is("GAP", BuoyReader.GAP, -32768);
     }
 
     // ---- the record
