@@ -431,7 +431,7 @@ public final class CallEdgesTest {
     // ---- 10: count
 
     private static void count() {
-        on(10, "What 0: SAMPLES, 1: STRETCHES, 2: WAVES, 3: FREAKS, 4: GROUPS, 5: LENSES, 6: NAMES");
+        on(10, "What 0: SAMPLES, 1: STRETCHES, 2: WAVES, 3: FREAKS, 4: GROUPS, 5: LENSES, 6: NAMES, 7: MEND");
         counts("empty", new BuoyReader(), 0, 0, 0, 0, 0, 0, 0, 2, 0, 20, 2, 0, 0, 0, 0, 0);
         counts("a GAP", of(GAP), 1, 0, 0, 0, 0, 0, 0, 2, 0, 20, 2, 0, 0, 1, 0, 0);
         counts("all GAPS", full(GAP), 600, 0, 0, 0, 0, 0, 0, 2, 0, 20, 2, 0, 0, 600, 0, 0);
@@ -443,6 +443,7 @@ public final class CallEdgesTest {
         counts("STRETCHES of four", parted, 600, 120, 120, 0, 0, 0, 0, 0, 0, 20, 2, 0, 0, 120, 0, 240);
         parted.set(3, 1);
         counts("GROUPS of one", parted, 600, 120, 120, 0, 120, 0, 0, 0, 0, 20, 1, 0, 0, 120, 0, 240);
+        countsOfAll();
         on(10, "NONE for another what.");
         for (int what : FAR) {
             is("count(" + what + ")", parted.count(what), NONE);
@@ -450,6 +451,30 @@ public final class CallEdgesTest {
         }
         is("count(16)", parted.count(16), NONE);
         is("count(16) of none", new BuoyReader().count(16), NONE);
+    }
+
+    /** Each of the sixteen is once another number than at first. */
+    private static void countsOfAll() {
+        on(10, "8: BAND, 9: FACTOR, 10: LEAST, 11: RULE, 12: MARK, 13: GAPS, 14: GAPS that are MENDED, 15: SAMPLES of all WAVES.");
+        int[] waves = {-9, 40, -9, 9, -9, 30, -9, 8, -9, 7, -9, 7, -9, 7, -9, 7, -9, 7, -9, 7};
+        int[] few = {GAP, GAP, GAP, GAP, GAP, -9, GAP, -9};
+        BuoyReader x = of(Records.join(waves, few));
+        x.set(0, 4);
+        x.set(1, 6);
+        x.set(2, 10);
+        x.set(3, 1);
+        x.level(2, 0);
+        x.mark(1, 0);
+        x.lens(1, 100);
+        // LEVEL is -9 by RULE 2, so that nothing is below it; about 0 there are nine WAVES.
+        counts("about -9", x, 28, 2, 0, 0, 0, 1, 0, 4, 6, 10, 1, 2, 1, 6, 1, 0);
+        x.level(0, 0);
+        x.name(0, 5);
+        x.name(1, 6);
+        x.name(2, 7);
+        counts("about 0", x, 28, 2, 9, 2, 2, 1, 3, 4, 6, 10, 1, 0, 1, 6, 1, 18);
+        x.level(1, 0);
+        is("RULE 1", x.count(11), 1);
     }
 
     private static void counts(String what, BuoyReader x, int... due) {
@@ -461,7 +486,7 @@ public final class CallEdgesTest {
     // ---- 11 and 12: SAMPLES
 
     private static void sample() {
-        on(11, "what 0: as it came (HEAVE or GAP), 1: MENDED (GAP if it is REFUSED), 2: as SEEN (GAP: REFUSED)");
+        on(11, "Of a SAMPLE, what 0: as it came (HEAVE or GAP), 1: MENDED (GAP if it is REFUSED), 2: as SEEN (GAP: REFUSED)");
         BuoyReader x = of(-9999, GAP, 9999, GAP, GAP, GAP, 5);
         x.lens(3, 20);
         samples("first", x, 0, -9999, -9999, -19998, 0, NONE, NONE);
@@ -532,7 +557,7 @@ public final class CallEdgesTest {
     // ---- 13: stretch
 
     private static void stretch() {
-        on(13, "what 0: its first SAMPLE, 1: SAMPLES, 2: LEVEL, 3: WAVES, 4: SAMPLES of its HEAD");
+        on(13, "Of a STRETCH, what 0: its first SAMPLE, 1: SAMPLES, 2: LEVEL, 3: WAVES, 4: SAMPLES of its HEAD");
         stretches("of one SAMPLE", of(GAP, 7), 0, 1, 1, 0, 0, 1, 0, 7, 7);
         stretches("of 600", full(-1, 1), 0, 0, 600, 0, 299, 1, 1, 1, -1);
         stretches("HEAD and TAIL", of(3, -2, 5, 6, -1, 2), 0, 0, 6, 0, 1, 2, 1, 6, -2);
@@ -570,7 +595,7 @@ public final class CallEdgesTest {
     // ---- 14 and 15: WAVES, RANKS
 
     private static void wave() {
-        on(14, "what 0: its first SAMPLE, 1: PERIOD, 2: HEIGHT, 3: CREST, 4: TROUGH, 5: TOP, 6: its STRETCH, 7: RANK");
+        on(14, "Of a WAVE, what 0: its first SAMPLE, 1: PERIOD, 2: HEIGHT, 3: CREST, 4: TROUGH, 5: TOP, 6: its STRETCH, 7: RANK");
         waves("the least", of(-1, 1, -1, 1), 0, 1, 2, 2, 1, 1, 1, 0, 0, 0, 1, NONE, NONE);
         BuoyReader x = of(-1, 1, -1, 1, GAP, GAP, GAP, -2, 3, 4, 0, -3, 5);
         x.name(1, 8);
@@ -634,7 +659,7 @@ public final class CallEdgesTest {
     // ---- 16 and 17: THE HIGHEST, FREAKS
 
     private static void highest() {
-        on(16, "MEANS of THE HIGHEST of a part, what 0: of HEIGHTS above, 1: below, 2: of PERIODS above, 3: below, 4:");
+        on(16, "MEANS of THE HIGHEST of a part, what 0: of HEIGHTS above, 1: below, 2: of PERIODS above, 3: below, 4: how many they are.");
         BuoyReader x = of(-1, 3, 3, -1, 9, -1, 4, 4, 4, -1, 1);
         // HEIGHTS 4, 10, 5, PERIODS 3, 2, 4.
         int[][] due = {{19, 3, 3, 1, 3}, {10, 1, 2, 1, 1}, {10, 1, 2, 1, 1}, {10, 1, 2, 1, 1}};
@@ -686,7 +711,7 @@ public final class CallEdgesTest {
     // ---- 18 and 19: GROUPS
 
     private static void group() {
-        on(18, "what 0: its first WAVE, 1: WAVES, 2: the one of the least RANK");
+        on(18, "Of a GROUP, what 0: its first WAVE, 1: WAVES, 2: the one of the least RANK");
         BuoyReader x = heights(2, 8, 9, 9, 2, 2, 8, 8, 2);
         x.mark(0, 5);
         groups("the first", x, 0, 1, 3, 2, 5, 6);

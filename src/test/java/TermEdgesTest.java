@@ -59,7 +59,7 @@ public final class TermEdgesTest {
     }
 
     private static void calls() {
-        on("An object is used for at most 512 calls after it has been made");
+        on("An object is used for at most 512 calls after it has been made; what later calls answer is free.");
         BuoyReader x = new BuoyReader();
         for (int i = 1; i <= 510; i++) {
             is("call " + i, x.heave(i % 2 == 0 ? 1 : -1), i);
@@ -95,7 +95,7 @@ public final class TermEdgesTest {
     }
 
     private static void samplesAtMost600() {
-        on("SAMPLES, at most 600");
+        on("THE RECORD: SAMPLES, at most 600");
         BuoyReader x = of(Records.row(599, 4));
         is("the 600th", x.heave(7), 600);
         is("the 601st", x.heave(8), NONE);
@@ -172,7 +172,7 @@ public final class TermEdgesTest {
     }
 
     private static void heavesAheadAndBehind() {
-        on("with HEAVES ahead of it and behind it");
+        on("with HEAVES ahead of it and behind it is MENDED");
         is("ahead none", of(GAP, 5).sample(0, 1), GAP);
         is("behind none", of(5, GAP).sample(1, 1), GAP);
         is("neither", of(GAP).sample(0, 1), GAP);
@@ -207,7 +207,7 @@ public final class TermEdgesTest {
     }
 
     private static void mendedGreatest() {
-        on("the k-th of g GAPS (from 1 on) between a and b");
+        on("the k-th of g GAPS (from 1 on) between a and b is a times (g and 1 less k) and b times k together");
         is("in the middle of all", of(-9999, GAP, 9999).sample(1, 1), 0);
         is("first of two", of(9999, GAP, GAP, -9999).sample(1, 1), 3333);
         is("second of two", of(9999, GAP, GAP, -9999).sample(2, 1), -3333);
@@ -478,7 +478,7 @@ public final class TermEdgesTest {
     }
 
     private static void levelTold() {
-        on("RULE 0: a number told (-9999 to 9999; 0 at first)");
+        on("LEVEL of a STRETCH, by RULE 0: a number told (-9999 to 9999; 0 at first)");
         BuoyReader x = of(3);
         is("RULE at first", x.count(11), 0);
         is("at first", x.stretch(0, 2), 0);
@@ -677,6 +677,7 @@ public final class TermEdgesTest {
         wavesFrom0();
         heightCrestTrough();
         top();
+        period();
         ranks();
     }
 
@@ -744,6 +745,15 @@ public final class TermEdgesTest {
         BuoyReader x = of(-1, 3, 9, -1, 1);
         x.lens(1, 2);
         is("of the SEEN ones", x.wave(0, 5), 1);
+    }
+
+    private static void period() {
+        on("PERIOD: how many SAMPLES it has.");
+        BuoyReader x = of(-1, 1, -1, 1, 2, 1, 0, 0, -1, 0, -1, 3, GAP, -3, 3);
+        is("two", x.wave(0, 1), 2);
+        is("eight", x.wave(1, 1), 8);
+        is("a MENDED one counts too", x.wave(2, 1), 3);
+        is("all of them", x.count(15), 13);
     }
 
     private static void ranks() {
