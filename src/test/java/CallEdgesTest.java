@@ -968,6 +968,7 @@ public final class CallEdgesTest {
         is("BAND stays", y.count(8), 1);
         is("WAVES stay", y.count(2), 1);
         goneAboutALevel();
+        goneStepByStep();
         on(25, "NONE: there is none such, by none.");
         is("by none", of(-501, 501, -501, 501).gone(0), NONE);
         is("behind the last", y.gone(1), NONE);
@@ -1020,6 +1021,21 @@ public final class CallEdgesTest {
         behindALowOne.set(1, 6);
         is("from the 9 to the last -20", behindALowOne.wave(0, 0) * 10 + behindALowOne.wave(0, 1), 27);
         is("by 3 the last -3 is not below, but the -10 is", behindALowOne.gone(0), 9);
+    }
+
+    /** By each BAND another SAMPLE of the WAVE is its CROSSING, so that no BAND can be left out. */
+    private static void goneStepByStep() {
+        int[] low = {-1000};
+        int[] last = {600};
+        for (int highest = 498; highest <= 501; highest++) {
+            int[] rising = new int[highest];
+            for (int i = 0; i < highest; i++) {
+                rising[i] = i + 1;
+            }
+            BuoyReader x = of(Records.join(low, rising, low, last));
+            is("1 to " + highest + " is one WAVE", x.wave(0, 1), highest + 1);
+            is("1 to " + highest, x.gone(0), highest > 500 ? NONE : highest);
+        }
     }
 
     /** What was asked ahead of a change is answered anew behind it. */
